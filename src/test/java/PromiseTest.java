@@ -228,6 +228,10 @@ public final class PromiseTest {
         fault("y ", 1, 2);
         fault("y5", 1, 2);
         fault("y5  ", 1, 4);
+        fault("y5;" + " ".repeat(237), 0, NONE);
+        fault("y5" + " ".repeat(238), 1, 240);
+        fault(" ".repeat(238) + "y5", 1, 240);
+        fault(" ".repeat(239) + "y", 1, 240);
         fault("yy", 1, 1);
         fault("y5 5;", 1, 3);
         fault("y5;;", 1, 3);
