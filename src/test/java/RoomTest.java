@@ -32,7 +32,7 @@ public final class RoomTest {
             x.feed(TOWN.charAt(i));
         }
         x.town();
-        for (int i = 0; i < 8; i++) {
+        for (int i = 0; i < 7; i++) {
             x.drift(1);
             x.say(0, 0);
             x.hoard(1, 1, 1);
