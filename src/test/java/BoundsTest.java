@@ -587,6 +587,9 @@ public final class BoundsTest {
         WordRation free = townOf("y9;w1 1 0;w1 1 0;o0;o1;a0 2;a1 1;p1;");
         due("pointing ahead of a way for nothing", free.cheapest(0, 0, 1), 1);
         due("pointing ahead of a way for nothing", free.cheapest(0, 1, 1), 1);
+        WordRation beside = townOf("y9;w0 5 0;w1 1 0;w1 1 0;w0 5 0;a0 2;a0 2;p1;");
+        due("another word's ways are none of its own: itself", beside.cheapest(0, 2, 1), 0);
+        due("another word's ways are none of its own: none", beside.cheapest(0, 3, 1), NONE);
         String row = "y9;w1 99 0;" + "w0 1 0;".repeat(7) + "a7 64;a6 32;a5 16;a4 8;a3 4;a2 2;a1 1;p1;";
         due("seven ways deep", townOf(row).cheapest(0, 7, 0), 99);
         due("by the first", townOf(row).cheapest(0, 7, 1), 2);
