@@ -657,12 +657,16 @@ final class Model {
             return UNKNOWN;
         }
         List<Integer> open = toCome();
+        int[] supply = new int[8];
+        for (int w = 0; w < told.words.size(); w++) {
+            supply[w] = s.get("left " + w) + byAll(w);
+        }
         int[] best = null;
         int[] bestHow = null;
         int[] how = new int[open.size()];
         boolean more = true;
         while (more) {
-            int[] value = valueOf(open, how);
+            int[] value = valueOf(open, how, supply);
             if (value != null && (best == null || value[0] > best[0] || value[0] == best[0] && value[1] < best[1])) {
                 best = value;
                 bestHow = how.clone();
@@ -684,7 +688,7 @@ final class Model {
     }
 
     /** Worth and words of a plan; null if it cannot be. */
-    private int[] valueOf(List<Integer> open, int[] how) {
+    private int[] valueOf(List<Integer> open, int[] how, int[] supply) {
         int[] used = new int[8];
         int worth = 0;
         int words = 0;
@@ -707,8 +711,8 @@ final class Model {
             }
             worth += how[i] == 0 ? 0 : need.worth;
         }
-        for (int w = 0; w < told.words.size(); w++) {
-            if (used[w] > s.get("left " + w) + byAll(w)) {
+        for (int w = 0; w < 8; w++) {
+            if (used[w] > supply[w]) {
                 return null;
             }
         }

@@ -2,12 +2,17 @@ import java.util.Random;
 
 /**
  * Runs of calls, drawn from fixed seeds, answered by the program and by the model of the document:
- * each answer must be the same.
+ * each answer must be the same. Some runs are of towns with as many words, ways, persons and needs as
+ * the document allows, and of many years.
  */
 public final class ModelTest {
     private static final int RUNS = 4000;
+    private static final int FULL_RUNS = 400;
     private static final int CALLS = 512;
+    private static final int LETTERS = 240;
     private static final Check CHECK = new Check();
+    private static int fullTowns = 0;
+    private static int mostYears = 0;
 
     private final Random random;
     private final WordRation real = new WordRation();
@@ -28,7 +33,29 @@ public final class ModelTest {
         for (int run = 0; run < RUNS; run++) {
             new ModelTest(run).play();
         }
+        for (int run = RUNS; run < RUNS + FULL_RUNS; run++) {
+            new ModelTest(run).playFull();
+        }
+        // a full town is what these runs are for: texts that were refused would try nothing
+        CHECK.due("full towns", fullTowns, FULL_RUNS);
+        CHECK.due("years in one of them, at least", Math.min(1000, mostYears), 1000);
         CHECK.end("ModelTest");
+    }
+
+    private void playFull() {
+        feed(drawFullText());
+        town();
+        if (words == 8 && model.told(2) == 10 && persons == 5 && needs == 8) {
+            fullTowns++;
+        }
+        boolean manyYears = random.nextBoolean();
+        while (calls < CALLS) {
+            calls(10);
+            for (int i = 0; i < 15 && manyYears; i++) {
+                due("day(60)", real.day(60), model.day(60));
+            }
+        }
+        mostYears = Math.max(mostYears, model.told(6) / year);
     }
 
     private void play() {
@@ -60,11 +87,15 @@ public final class ModelTest {
         if (random.nextInt(3) == 0 && !text.isEmpty()) {
             text = spoil(text);
         }
+        feed(text);
+        town();
+    }
+
+    private void feed(String text) {
         for (int i = 0; i < text.length() && calls < CALLS; i++) {
             int letter = text.charAt(i);
             due("feed(" + letter + ")", real.feed(letter), model.feed(letter));
         }
-        town();
     }
 
     private void town() {
@@ -106,11 +137,39 @@ public final class ModelTest {
                 clause(text, 'n', random.nextInt(p), random.nextInt(w), random.nextInt(days),
                         random.nextBoolean() ? upTo(3) : upTo(99));
             }
-            if (text.length() > 240 || random.nextInt(3) > 0 && refused(text)) {
+            if (text.length() > LETTERS || random.nextInt(3) > 0 && refused(text)) {
                 text.setLength(before);
             }
         }
         return text.toString();
+    }
+
+    /** Eight words, ten ways, five persons, eight needs; where letters are left, words to point at, then blanks. */
+    private String drawFullText() {
+        int days = random.nextInt(3) == 0 ? 1 + upTo(8) : 1 + upTo(98);
+        int most = 1 + upTo(8);
+        StringBuilder text = new StringBuilder("y" + days + ";");
+        for (int w = 0; w < 8; w++) {
+            text.append("w").append(upTo(most)).append(' ').append(1 + upTo(8)).append(' ').append(upTo(2)).append(';');
+        }
+        int first = random.nextInt(8);
+        for (int i = 0; i < 10; i++) {
+            int w = (first + i) % 8;
+            int set = random.nextInt(256) & (random.nextBoolean() ? 255 : random.nextInt(256)) & ~(1 << w);
+            text.append('a').append(w).append(' ').append(set == 0 ? 1 << (w + 1) % 8 : set).append(';');
+        }
+        for (int p = 0; p < 5; p++) {
+            text.append('p').append(upTo(1)).append(';');
+        }
+        int wanted = 1 + random.nextInt(8);
+        for (int n = 0; n < 8; n++) {
+            text.append('n').append(random.nextInt(5)).append(' ').append(random.nextInt(wanted)).append(' ')
+                    .append(random.nextInt(Math.min(10, days))).append(' ').append(upTo(9)).append(';');
+        }
+        for (int i = 0; i < 2 && text.length() + 3 <= LETTERS; i++) {
+            text.append('o').append((first + 3 * i) % 8).append(';');
+        }
+        return random.nextBoolean() ? text.toString() : text + " ".repeat(LETTERS - text.length());
     }
 
     private static boolean refused(CharSequence text) {
@@ -227,7 +286,7 @@ public final class ModelTest {
             }
             case 16: {
                 int i = random.nextInt(3) == 0 ? aNumber(2) : 0;
-                due("keep(" + i + ")", random.nextBoolean() ? real.keep(i) : real.keep(i), model.keep(i));
+                due("keep(" + i + ")", real.keep(i), model.keep(i));
                 break;
             }
             default: {
